@@ -12,6 +12,8 @@ public final class CyclesTest {
         ranges();
         suspect();
         suspectsOfThen();
+        shortPulse();
+        eightThrusters();
         Checks.end();
     }
 
@@ -282,5 +284,28 @@ public final class CyclesTest {
         body.undo();
         body.undo();
         Checks.due("27 undo brings back who was sound", body.suspect(40, 0, 0), Checks.NONE);
+    }
+
+    private static void shortPulse() {
+        ThrusterSelector body = Checks.axes(1, 1);
+        body.request(1, 0, 0);
+        body.cycle();
+        Checks.due("27 without a pulse of one tick", body.suspect(0, 0, 0), 100);
+        Checks.due("27 throughout", body.suspect(20, 0, 0), 200);
+        Checks.due("27 with one tick too many", body.suspect(21, 0, 0), Checks.NONE);
+    }
+
+    private static void eightThrusters() {
+        ThrusterSelector body = new ThrusterSelector();
+        for (int k = 0; k < 8; k++) {
+            body.addThruster(k % 3 - 1, 0, k % 4, 1 + k % 2, k % 2, 1);
+        }
+        body.setState(3, 2);
+        body.request(0, 0, 60);
+        Checks.due("21 eight thrusters, one runs", body.cycle(), 2 + 32);
+        Checks.due("25 the target", body.impulse(2, 1), 40);
+        Checks.due("25 delivered along y", body.impulse(1, 1), 0);
+        Checks.due("25 delivered as turn", body.impulse(1, 2), 60);
+        Checks.due("27 none is the ninth", body.suspect(0, 0, 0), Checks.NONE);
     }
 }

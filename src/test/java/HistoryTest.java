@@ -99,9 +99,24 @@ public final class HistoryTest {
         body.allow(12);
         body.undo();
         Checks.due("28 allow", body.isForbidden(4), 1);
+        Checks.due("28 allow alone", body.digest(), before);
         body.forbid(3);
         body.undo();
         Checks.due("28 forbid", body.isForbidden(3), 0);
+        Checks.due("28 forbid alone", body.digest(), before);
+        body.refuel(1, 5);
+        body.undo();
+        Checks.due("28 refuel", body.digest(), before);
+        Checks.write(body, "1,2,3");
+        body.load();
+        body.undo();
+        Checks.due("28 load", body.digest(), before);
+        body.cycle();
+        body.undo();
+        Checks.due("28 cycle", body.digest(), before);
+        body.request(7, 8, 9);
+        body.undo();
+        Checks.due("28 request", body.digest(), before);
     }
 
     private static long hash(long... values) {

@@ -22,6 +22,7 @@ public final class SelectionTest {
             Checks.due("11 allow " + set, body.allow(set), Checks.BAD_STATE);
         }
         Checks.due("10 forbid 15", body.forbid(15), 1);
+        Checks.due("10 forbid 15 again", body.forbid(15), Checks.BAD_STATE);
         Checks.due("10 forbid 3", body.forbid(3), 2);
         Checks.due("10 forbid 3 again", body.forbid(3), Checks.BAD_STATE);
         Checks.due("10 a set that holds a forbidden one", body.forbid(7), 3);
@@ -123,6 +124,8 @@ public final class SelectionTest {
         Checks.due("13 the first of equals", body.select(5, 0, 0), 1);
         body.refuel(0, 99999);
         Checks.due("13 fuel of the fuller tank", body.select(5, 0, 0), 8);
+        Checks.due("14 one that is not selected", body.pulse(5, 0, 0, 0), 0);
+        Checks.due("14 one that is selected", body.pulse(5, 0, 0, 3), 1);
         body.refuel(1, 99998);
         Checks.due("13 of the other tank", body.select(5, 0, 0), 1);
         body.setState(0, 1);
@@ -161,7 +164,7 @@ public final class SelectionTest {
     private static void pulse() {
         int[][] rows = {
             // f, least, target, pulse
-            {1, 1, 7, 7}, {1, 1, 20, 20}, {1, 10, 20, 20}, {10, 1, 4, 0}, {10, 1, 5, 1}, {10, 1, 14, 1}, {10, 1, 15, 2},
+            {1, 1, 1, 1}, {1, 1, 7, 7}, {1, 1, 20, 20}, {1, 10, 20, 20}, {10, 1, 4, 0}, {10, 1, 5, 1}, {10, 1, 14, 1}, {10, 1, 15, 2},
             {10, 1, 195, 20}, {10, 1, 194, 19}, {2, 4, 3, 0}, {2, 4, 4, 4}, {2, 4, 7, 4}, {2, 4, 9, 5}, {2, 5, 4, 0},
             {2, 5, 5, 5}, {1, 10, 4, 0}, {1, 10, 5, 10}, {1, 10, 9, 10}, {1, 10, 10, 10}, {1, 10, 11, 11}, {3, 3, 4, 0},
             {3, 3, 5, 3}, {10, 10, 49, 0}, {10, 10, 50, 10}, {10, 10, 104, 10}, {10, 10, 105, 11},
@@ -190,6 +193,7 @@ public final class SelectionTest {
         body.refuel(1, 99998);
         Checks.due("15 the other has less", body.price(0, 4, 20), 4000);
         Checks.due("15 fuel of the emptier one", body.price(0, 4, -20), 8000);
+        Checks.due("15 whole ticks", Checks.axes(1, 1).price(5, 1, 1), 6000);
         ThrusterSelector thirds = new ThrusterSelector();
         thirds.addThruster(3, 0, 1, 1, 0, 1);
         thirds.addThruster(0, 0, 3, 1, 0, 1);
