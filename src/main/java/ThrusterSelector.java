@@ -741,7 +741,7 @@ public final class ThrusterSelector {
             mask = 0;
             cost = 0;
             denominator = 1;
-            Arrays.fill(shares, 0);
+            Arrays.fill(shares, 0L);
         }
 
         /** Cramer's rule: each W is a quotient of two determinants. */

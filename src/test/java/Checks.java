@@ -6,6 +6,8 @@ final class Checks {
     static final int BAD_STATE = -2000000003;
     static final int FULL = -2000000004;
 
+    private static final int MOST_LINES = 40;
+
     private static int wrong = 0;
 
     private Checks() {
@@ -14,12 +16,15 @@ final class Checks {
     static void due(String call, long got, long want) {
         if (got != want) {
             wrong++;
-            System.out.println(call + " answered " + got + ", due is " + want);
+            if (wrong <= MOST_LINES) {
+                System.out.println(call + " answered " + got + ", due is " + want);
+            }
         }
     }
 
     static void end() {
         if (wrong != 0) {
+            System.out.println(wrong + " answers are not as due");
             System.exit(1);
         }
     }

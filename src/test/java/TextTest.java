@@ -90,6 +90,7 @@ public final class TextTest {
         fault("2001x", 0);
         fault("2001", 0);
         fault("4294967297,0,0", 0);
+        fault("1-x,2,3", 1);
         fault("1/2", 1);
         fault("1:2", 1);
     }
