@@ -165,6 +165,7 @@ public final class TextTest {
         Checks.due("32 the last one", body.requested(9, 2), 10);
         fault(text + ";", text.length() + 1);
         fault(text + ";0,0,11", text.length() + 1);
+        fault(text + "; 0,0,11", text.length() + 2);
         StringBuilder digits = new StringBuilder();
         for (int k = 0; k < 100; k++) {
             digits.append('0');
