@@ -569,6 +569,17 @@ public final class CycleEdgesTest {
         Checks.due("y is one less", measured().suspect(9, 43, 15), Checks.NONE);
         Checks.due("the turn is one less", measured().suspect(9, 44, 14), Checks.NONE);
         Checks.due("the target instead", measured().suspect(9, 44, 11), Checks.NONE);
+        // Here the target differs from the delivered impulse in all parts.
+        ThrusterSelector rounded = Checks.rows(new int[] {0, 0, 0, 10}, new int[] {0, 0, 1, 10}, new int[] {1, 0, 1, 10}, new int[] {2, 0, 1, 1});
+        rounded.setState(3, 2);
+        rounded.request(54, 137, 71);
+        rounded.cycle();
+        impulse("of rounded pulses", rounded, 2, 54, 117, 31);
+        impulse("of rounded pulses", rounded, 1, 50, 140, 70);
+        Checks.due("as delivered, with rounded pulses", rounded.suspect(50, 140, 70), 0);
+        Checks.due("as requested", rounded.suspect(54, 137, 71), Checks.NONE);
+        Checks.due("0 off", rounded.suspect(0, 140, 70), 100);
+        Checks.due("1 on", rounded.suspect(50, 250, 70), 201);
         // A thruster that fires for 20 ticks of 20, or for none: it changes nothing, so it is not suspected.
         ThrusterSelector full = Checks.axes(1, 1);
         full.request(20, 0, 0);

@@ -18,6 +18,7 @@ public final class SelectionEdgesTest {
         halves();
         leastPulse();
         otherPulses();
+        nothingIsLeft();
         targetRange();
         pulseOrder();
         roundedDown();
@@ -149,6 +150,10 @@ public final class SelectionEdgesTest {
         }
         same("all are 20", Checks.rows(TENS), tenths(200, 200, 200), 7, 600000);
         none("one is above 20", Checks.rows(TENS), tenths(200, 200, 201));
+        int[][] single = {{0, 0, 0, 10}, {0, 0, 1, 1}, {1, 0, 1, 1}};
+        same("a tenth of a tick of the first", Checks.rows(single), new int[] {1, 0, 0}, 1, 1000);
+        same("a tenth of a tick of the second", Checks.rows(single[1], single[0], single[2]), new int[] {1, 0, 0}, 2, 1000);
+        same("a tenth of a tick of the third", Checks.rows(single[1], single[2], single[0]), new int[] {1, 0, 0}, 4, 1000);
         same("two are 0", Checks.rows(TENS), tenths(0, 0, 1), 4, 1000);
         none("all are below 0", Checks.rows(TENS), tenths(-1, -1, -1));
         // W of the first two are (10 * ty + tt) / 200 and (10 * ty - tt) / 200: there are no finer steps.
@@ -335,6 +340,38 @@ public final class SelectionEdgesTest {
         body.request(-150, 130, 70);
         Checks.due("cycle", body.cycle(), Checks.NONE);
         Checks.due("fired of the running one", body.fired(3), 0);
+    }
+
+    private static void nothingIsLeft() {
+        Checks.sentence("for each thruster with W above 0");
+        // A cheaper set of three is found behind a dearer one: the thrusters of that one alone have no pulse.
+        ThrusterSelector body = Checks.rows(new int[] {0, 0, 0, 5}, new int[] {1, 0, 1, 2}, new int[] {-1, 0, 1, 2}, new int[] {0, 0, 1, 4});
+        same("two of four", body, new int[] {0, 12, 0}, 6, 12000);
+        body.refuel(1, 90000);
+        body.addThruster(0, 0, 1, 3, 1, 1);
+        same("the dearer tank", body, new int[] {0, 12, 0}, 6, 12000);
+        body.refuel(0, 80000);
+        same("the cheaper one", body, new int[] {0, 12, 0}, 16, 12000);
+        int[] due = {0, 0, 0, 0, 4};
+        for (int i = 0; i < 5; i++) {
+            Checks.due("pulse of " + i, body.pulse(0, 12, 0, i), due[i]);
+        }
+        body.request(0, 12, 0);
+        Checks.due("cycle", body.cycle(), 16);
+        for (int i = 0; i < 5; i++) {
+            Checks.due("fired(" + i + ")", body.fired(i), due[i]);
+        }
+        // One call after another on the same body, each as if it were the first.
+        for (int turn = 0; turn < 2; turn++) {
+            same("three", body, new int[] {5, 14, 2}, 19, 26000);
+            same("none of them", body, new int[3], 0, 0);
+            Checks.due("pulse of 4", body.pulse(0, 0, 0, 4), 0);
+            none("too far", body, 0, 161, 0);
+            same("none of them", body, new int[3], 0, 0);
+            same("one", body, new int[] {0, 3, 0}, 16, 3000);
+            Checks.due("pulse of 0", body.pulse(0, 3, 0, 0), 0);
+            none("the other way", body, -1, 0, 0);
+        }
     }
 
     private static void targetRange() {
